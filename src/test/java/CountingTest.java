@@ -11,6 +11,7 @@ final class CountingTest {
         countErrors(check);
         countOfEmptyWords(check);
         countAllWordsOfFortyBits(check);
+        countInTheLastOfSixteenStates(check);
         unrank(check);
         unrankErrors(check);
         rank(check);
@@ -106,6 +107,26 @@ final class CountingTest {
         check.is("its rank among its like", x.rank(0, 1), 137846528819L);
         check.is("its rank", x.rank(0, 0), (1L << 40) - (1L << 20));
         check.is("one too far", x.unrank(0, 10, 20, 137846528820L), -5);
+    }
+
+    /** The greatest table of counts that there can be: all states, and words of forty bits. */
+    private static void countInTheLastOfSixteenStates(Check check) {
+        check.about("promises 27 to 29, sixteen states");
+        ConstrainedCoder x = Calls.states(4, 16);
+        for (int s = 0; s < 16; s++) {
+            x.addEdge(s, 15, (s + 1) % 16);
+            x.addEdge(s, 0, s);
+        }
+        for (int start : new int[] {0, 14, 15}) {
+            check.is("all words", x.countWords(start, 10, -1), 1024);
+            check.is("half ones", x.countWords(start, 10, 20), 252);
+            check.is("all ones", x.countWords(start, 10, 40), 1);
+            check.is("no whole label of ones", x.countWords(start, 10, 39), 0);
+            check.is("the last of half ones", x.unrank(start, 10, 20, 251), 40);
+            check.text("half ones", Calls.word(x), "1111111111111111111100000000000000000000");
+            check.is("its rank among its like", x.rank(start, 1), 251);
+            check.is("its rank", x.rank(start, 0), 992);
+        }
     }
 
     private static void unrank(Check check) {

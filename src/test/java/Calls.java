@@ -52,7 +52,8 @@ final class Calls {
 
     static String word(ConstrainedCoder x) {
         StringBuilder text = new StringBuilder();
-        for (int i = 0; i < x.wordLength(); i++) {
+        int length = x.wordLength();
+        for (int i = 0; i < length; i++) {
             text.append(x.wordBit(i));
         }
         return text.toString();
@@ -62,7 +63,8 @@ final class Calls {
     static String graphText(ConstrainedCoder x) {
         StringBuilder text = new StringBuilder();
         text.append(x.labelLength()).append('/').append(x.stateCount()).append(':');
-        for (int e = 0; e < x.edgeCount(); e++) {
+        int edges = x.edgeCount();
+        for (int e = 0; e < edges; e++) {
             text.append(' ').append(x.edgeStart(e)).append('-').append(x.edgeLabel(e)).append('-')
                 .append(x.edgeEnd(e));
         }
@@ -78,5 +80,15 @@ final class Calls {
     static int parse(ConstrainedCoder x, String text) {
         type(x, text);
         return x.parseConstraint();
+    }
+
+    /**
+     * Numbers below least and above most, both of which are at least 0: the next ones, the farthest ones, and such as
+     * a cast to fewer bits, a sign that is dropped or a product that wraps around would let through.
+     */
+    static int[] outside(int least, int most) {
+        return new int[] {least - 1, most + 1, -most - 2, most + 256, least - 256, most + 65536, least - 65536,
+            (1 << 29) + most, (1 << 30) + least, (1 << 30) + most, Integer.MIN_VALUE, Integer.MIN_VALUE + most,
+            Integer.MIN_VALUE + least + 1, Integer.MAX_VALUE, Integer.MAX_VALUE - 1};
     }
 }

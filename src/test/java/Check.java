@@ -31,6 +31,11 @@ final class Check {
         is(statement, truth ? 1 : 0, 1);
     }
 
+    /** The number of the answers that were compared so far. */
+    int compared() {
+        return passed + failed;
+    }
+
     boolean allPassed() {
         return failed == 0;
     }

@@ -226,18 +226,23 @@ final class CountingTest {
 
     private static void rankAndUnrankAgree(Check check) {
         check.about("promises 27 to 29, there and back");
-        ConstrainedCoder x = Calls.charge(3);
-        x.power(2);
         for (int ones = -1; ones <= 8; ones++) {
-            long count = x.countWords(3, 4, ones);
+            long count = chargeInPairs().countWords(3, 4, ones);
             String before = "";
             for (long rank = 0; rank < count; rank++) {
+                ConstrainedCoder x = chargeInPairs();
                 check.is("unrank", x.unrank(3, 4, ones, rank), 8);
                 check.is("rank", x.rank(3, ones < 0 ? 0 : 1), rank);
                 check.holds("the words rise", before.compareTo(Calls.word(x)) < 0);
                 before = Calls.word(x);
             }
         }
+    }
+
+    private static ConstrainedCoder chargeInPairs() {
+        ConstrainedCoder x = Calls.charge(3);
+        x.power(2);
+        return x;
     }
 
     private static void growthRate(Check check) {
@@ -263,20 +268,22 @@ final class CountingTest {
         check.is("three steps", chain.growthRate(3), Double.doubleToLongBits(1.0));
         check.is("four steps", chain.growthRate(4), 0);
         check.is("a hundred steps", chain.growthRate(100), 0);
-        // Many paths end at a state without edges; only the loop of another state goes on.
-        ConstrainedCoder x = Calls.graph(1, 4, 3, 0, 3);
-        for (int i = 0; i < 63; i++) {
-            x.addEdge(i % 3, 0, i % 3 + 1);
-        }
-        x.removeEdge(1);
-        ConstrainedCoder y = Calls.graph(1, 4, 3, 0, 3);
-        for (int i = 0; i < 60; i++) {
-            y.addEdge(i % 2, 0, i % 2 + 1);
-        }
         for (int iterations = 1; iterations <= 100; iterations++) {
+            ConstrainedCoder x = fadingPaths(3);
+            x.removeEdge(1);
             check.is("growth", x.growthRate(iterations), plainGrowth(x, iterations));
+            ConstrainedCoder y = fadingPaths(2);
             check.is("a rate below 1", y.growthRate(iterations), plainGrowth(y, iterations));
         }
+    }
+
+    /** Many paths over so many steps end at a state with a loop, which alone goes on. */
+    private static ConstrainedCoder fadingPaths(int steps) {
+        ConstrainedCoder x = Calls.graph(1, 4, 3, 0, 3);
+        for (int i = 0; i < 60; i++) {
+            x.addEdge(i % steps, 0, i % steps + 1);
+        }
+        return x;
     }
 
     private static void growthRateOfManyGraphs(Check check) {
@@ -298,11 +305,15 @@ final class CountingTest {
     private static long plainGrowth(ConstrainedCoder x, int iterations) {
         double[] old = new double[x.stateCount()];
         java.util.Arrays.fill(old, 1.0);
+        int[][] edges = new int[x.edgeCount()][];
+        for (int e = 0; e < edges.length; e++) {
+            edges[e] = new int[] {x.edgeStart(e), x.edgeEnd(e)};
+        }
         double most = 0.0;
         for (int i = 0; i < iterations; i++) {
             double[] sums = new double[old.length];
-            for (int e = 0; e < x.edgeCount(); e++) {
-                sums[x.edgeStart(e)] += old[x.edgeEnd(e)];
+            for (int[] edge : edges) {
+                sums[edge[0]] += old[edge[1]];
             }
             most = 0.0;
             for (double sum : sums) {

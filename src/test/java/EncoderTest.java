@@ -406,15 +406,14 @@ final class EncoderTest {
     /** The code of rate 2 : 3 for rll 0 1 that one split makes, with all sequences of four data words. */
     private static void splitCodeThereAndBack(Check check) {
         check.about("promises 15 and 33 to 38, a code");
-        ConstrainedCoder x = Calls.runLength(0, 1);
-        check.is("power(3)", x.power(3), 8);
-        check.is("eigenvectorBound(2)", x.eigenvectorBound(2), 2);
-        check.is("isEncoder(2)", x.isEncoder(2), 0);
-        check.is("split(0, 11)", x.split(0, 11), 2);
-        check.is("isEncoder(2)", x.isEncoder(2), 1);
-        check.is("anticipation()", x.anticipation(), 1);
         for (int message = 0; message < 256; message++) {
-            x.clearWord();
+            ConstrainedCoder x = Calls.runLength(0, 1);
+            check.is("power(3)", x.power(3), 8);
+            check.is("eigenvectorBound(2)", x.eigenvectorBound(2), 2);
+            check.is("isEncoder(2)", x.isEncoder(2), 0);
+            check.is("split(0, 11)", x.split(0, 11), 2);
+            check.is("isEncoder(2)", x.isEncoder(2), 1);
+            check.is("anticipation()", x.anticipation(), 1);
             x.startEncoder(2, 1);
             for (int i = 0; i < 4; i++) {
                 x.encode(message >> 2 * i & 3);

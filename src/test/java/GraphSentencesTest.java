@@ -327,15 +327,25 @@ final class GraphSentencesTest {
     private static void zeroToSixteenStates(Check check) {
         check.is("a new object", new ConstrainedCoder().stateCount(), 0);
         check.is("all", Scene.FULL.make().stateCount(), 16);
+        ConstrainedCoder x = new ConstrainedCoder();
+        for (int s = 0; s <= 20; s++) {
+            check.is("after " + s + " calls of addState", x.stateCount(), Math.min(s, 16));
+            x.addState();
+        }
         check.is("one", Calls.runLength(0, 0).stateCount(), 1);
-        Effects.asks(check, "stateCount()", x -> x.stateCount());
+        Effects.asks(check, "stateCount()", y -> y.stateCount());
     }
 
     private static void zeroToSixtyFourEdges(Check check) {
         check.is("a new object", new ConstrainedCoder().edgeCount(), 0);
         check.is("states without edges", Calls.states(1, 16).edgeCount(), 0);
         check.is("all", Scene.FULL.make().edgeCount(), 64);
-        Effects.asks(check, "edgeCount()", x -> x.edgeCount());
+        ConstrainedCoder x = Calls.states(1, 1);
+        for (int e = 0; e <= 70; e++) {
+            check.is("after " + e + " calls of addEdge", x.edgeCount(), Math.min(e, 64));
+            x.addEdge(0, 0, 0);
+        }
+        Effects.asks(check, "edgeCount()", y -> y.edgeCount());
     }
 
     private static void oneToFourBits(Check check) {

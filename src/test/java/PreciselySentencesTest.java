@@ -290,8 +290,8 @@ final class PreciselySentencesTest {
         ConstrainedCoder x = Calls.graph(1, 2, 0, 0, 0, 0, 0, 1);
         check.is("one of two edges ends", x.anticipation(), 1);
         ConstrainedCoder y = Calls.charge(2);
-        while (y.stateCount() < 16) {
-            y.addState();
+        for (int s = 5; s < 16; s++) {
+            check.is("addState()", y.addState(), s);
         }
         check.is("states without edges beside a deterministic graph", y.anticipation(), 0);
         ConstrainedCoder z = Calls.graph(1, 4, 0, 0, 1, 0, 0, 2, 1, 1, 3);

@@ -267,6 +267,7 @@ final class WordSentencesTest {
     }
 
     private static void clearWordTellsTheLength(Check check) {
+        check.is("clearWord() of a new object", new ConstrainedCoder().clearWord(), 0);
         for (int length = 0; length <= 40; length++) {
             ConstrainedCoder x = new ConstrainedCoder();
             Calls.setWord(x, FORTY.substring(0, length));

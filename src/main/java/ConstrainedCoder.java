@@ -195,14 +195,16 @@ public final class ConstrainedCoder {
         if (!graph.hasState(state)) {
             return NO_SUCH_STATE;
         }
-        return eigenvectors.elementFor(graph, p, state);
+        eigenvectors.find(graph, p);
+        return eigenvectors.foundElement(p, state);
     }
 
     public int eigenvectorBound(int p) {
         if (!isDataLength(p)) {
             return BAD_VALUE;
         }
-        return eigenvectors.boundFor(graph, p);
+        eigenvectors.find(graph, p);
+        return eigenvectors.foundBound(p);
     }
 
     // ---- encoders
@@ -258,7 +260,8 @@ public final class ConstrainedCoder {
         if (!isDataLength(p)) {
             return BAD_VALUE;
         }
-        return slots.firstUnequal(slot, eigenvectors, graph, p);
+        eigenvectors.find(graph, p);
+        return slots.firstUnequal(slot, eigenvectors, p);
     }
 
     // ---- snapshot
@@ -1044,30 +1047,38 @@ public final class ConstrainedCoder {
             Arrays.fill(bounds, UNKNOWN);
         }
 
-        int boundFor(Graph graph, int p) {
-            if (p < 1 || p >= bounds.length) {
-                return NONE;
-            }
-            if (bounds[p] == UNKNOWN) {
+        /** Makes the eigenvector for p ready to be read, if it is not so already. */
+        void find(Graph graph, int p) {
+            if (isNumber(p) && bounds[p] == UNKNOWN) {
                 bounds[p] = smallestBound(graph, p, elements[p]);
             }
-            return bounds[p];
         }
 
-        int elementFor(Graph graph, int p, int state) {
-            if (boundFor(graph, p) < 0 || !graph.hasState(state)) {
-                return NONE;
-            }
-            return elements[p][state];
+        int foundBound(int p) {
+            return isNumber(p) ? bounds[p] : NONE;
+        }
+
+        /** The element of a state, or NONE if there is no eigenvector or no such state. */
+        int foundElement(int p, int state) {
+            return isNumber(p) && state >= 0 && state < Graph.MAX_STATES ? elements[p][state] : NONE;
+        }
+
+        private boolean isNumber(int p) {
+            return p >= 1 && p < bounds.length;
         }
 
         private int smallestBound(Graph graph, int p, int[] values) {
+            // What is no element stays NONE, which no element of an array is.
+            Arrays.fill(values, NONE);
             for (int bound = 1; bound <= MAX_BOUND; bound++) {
-                Arrays.fill(values, bound);
+                for (int s = 0; s < graph.states(); s++) {
+                    values[s] = bound;
+                }
                 if (settle(graph, p, values)) {
                     return bound;
                 }
             }
+            Arrays.fill(values, NONE);
             return NONE;
         }
 
@@ -1342,7 +1353,7 @@ public final class ConstrainedCoder {
             return values[slot][index];
         }
 
-        int firstUnequal(int slot, EigenvectorFinder eigenvectors, Graph graph, int p) {
+        int firstUnequal(int slot, EigenvectorFinder eigenvectors, int p) {
             if (!hasSlot(slot)) {
                 return NO_SUCH_SLOT;
             }
@@ -1350,8 +1361,7 @@ public final class ConstrainedCoder {
                 return EMPTY_SLOT;
             }
             for (int i = 0; i < lengths[slot]; i++) {
-                // The counterpart of an element is negative where there is none, so it differs there.
-                if (values[slot][i] != eigenvectors.elementFor(graph, p, i)) {
+                if (values[slot][i] != eigenvectors.foundElement(p, i)) {
                     return i;
                 }
             }

@@ -3,7 +3,7 @@ import java.nio.file.Path;
 
 /**
  * Runs every test of the project; ends with exit code 1 if an answer was not as due. The arguments are the file of the
- * class and the document.
+ * class, the document and README.md.
  */
 public final class AllTests {
     private AllTests() {
@@ -12,9 +12,11 @@ public final class AllTests {
     public static void main(String[] args) throws Exception {
         String program = args.length > 0 ? args[0] : "src/main/java/ConstrainedCoder.java";
         String document = args.length > 1 ? args[1] : "../shared/DOC.md";
+        String readme = args.length > 2 ? args[2] : "README.md";
         Check check = new Check();
         FaceTest.run(check);
         ExamplesTest.run(check);
+        ReadmeTest.run(check, readme);
         Sentences sentences = new Sentences(check);
         runSentences(sentences);
         if (Files.exists(Path.of(document))) {

@@ -30,6 +30,7 @@ public final class AllTests {
         EncoderTest.run(check);
         ArrayAndSnapshotTest.run(check);
         ModelTest.run(check);
+        RoomTest.run(check);
         LanguageTest.run(check, program);
         System.out.println(sentences.size() + " sentences of the document, each with a test of its own");
         System.out.println(check.summary());

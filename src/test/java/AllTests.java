@@ -20,7 +20,7 @@ public final class AllTests {
         Sentences sentences = new Sentences(check);
         runSentences(sentences);
         if (Files.exists(Path.of(document))) {
-            DocumentTest.run(check, sentences, document);
+            DocumentTest.run(check, sentences, document, program);
         } else {
             System.out.println("the document is not at " + document + "; the names of the tests were not compared");
         }

@@ -1,3 +1,5 @@
+import java.lang.reflect.Method;
+
 /** Short ways to bring an object into a state, and to read its state as text. */
 final class Calls {
     private Calls() {
@@ -90,5 +92,21 @@ final class Calls {
         return new int[] {least - 1, most + 1, -most - 2, most + 256, least - 256, most + 65536, least - 65536,
             (1 << 29) + most, (1 << 30) + least, (1 << 30) + most, Integer.MIN_VALUE, Integer.MIN_VALUE + most,
             Integer.MIN_VALUE + least + 1, Integer.MAX_VALUE, Integer.MAX_VALUE - 1};
+    }
+
+    /** Makes the call that a text names. */
+    static long answer(ConstrainedCoder coder, String name, String list) throws ReflectiveOperationException {
+        String[] texts = list.isEmpty() ? new String[0] : list.split(", ");
+        for (Method method : ConstrainedCoder.class.getDeclaredMethods()) {
+            Class<?>[] types = method.getParameterTypes();
+            if (method.getName().equals(name) && types.length == texts.length) {
+                Object[] values = new Object[texts.length];
+                for (int i = 0; i < texts.length; i++) {
+                    values[i] = types[i] == int.class ? (Object) Integer.valueOf(texts[i]) : Long.valueOf(texts[i]);
+                }
+                return ((Number) method.invoke(coder, values)).longValue();
+            }
+        }
+        throw new NoSuchMethodException(name + "(" + list + ")");
     }
 }

@@ -5,15 +5,18 @@ import java.util.ArrayList;
 import java.util.LinkedHashMap;
 import java.util.List;
 import java.util.Map;
+import java.util.regex.Matcher;
 import java.util.regex.Pattern;
 
 /**
- * The sentences that the tests are named by stand in the document, and each clause of the document that names an error
- * code or a range, and each sentence of its description, has a test that is named by it.
+ * The program has the document's face in the document's words, and answers the document's examples. The sentences that
+ * the tests are named by stand in the document, and each clause of the document that names an error code or a range,
+ * and each sentence of its description, has a test that is named by it.
  */
 final class DocumentTest {
     private static final Pattern ERROR = Pattern.compile("NO_SUCH_STATE|NO_SUCH_EDGE|BAD_VALUE|FULL|NONE|NOT_DETERMINISTIC"
         + "|NOT_AN_ENCODER|ODD_LENGTH|NO_SUCH_SLOT|EMPTY_SLOT|INDEX_OUT_OF_RANGE|NEGATIVE_LENGTH|SYNTAX_ERROR");
+    private static final Pattern EXAMPLE = Pattern.compile("(\\w+)\\(([-\\d, ]*)\\) = (-?\\d+)");
     private static final Pattern RETURNED_RANGE = Pattern.compile("Returns .*\\d to \\d.*");
     /** What these say is said again, or made precise, by the sentence behind it. */
     private static final List<String> DEFINITIONS = List.of("The object holds one directed graph with labelled edges",
@@ -30,10 +33,14 @@ final class DocumentTest {
         this.sentences = sentences;
     }
 
-    static void run(Check check, Sentences sentences, String file) throws IOException {
+    static void run(Check check, Sentences sentences, String file, String program)
+        throws IOException, ReflectiveOperationException {
         check.about("the document");
         DocumentTest test = new DocumentTest(check, sentences);
-        test.read(Files.readString(Path.of(file)));
+        String text = Files.readString(Path.of(file));
+        test.read(text);
+        test.faceStandsInTheProgram(text, Files.readString(Path.of(program)));
+        test.examplesAreAnswered(text);
         test.quotesStandInTheDocument();
         test.clausesAreTested();
     }
@@ -62,6 +69,36 @@ final class DocumentTest {
 
     private static String flat(String text) {
         return text.trim().replaceAll("\\s+", " ");
+    }
+
+    private void faceStandsInTheProgram(String text, String program) {
+        int lines = 0;
+        for (String line : text.split("\n")) {
+            if (line.startsWith("    public ") && line.endsWith(";")) {
+                lines++;
+                String bare = line.substring(0, line.length() - 1);
+                check.holds("the program has:" + bare,
+                    program.contains("\n" + bare + ";\n") || program.contains("\n" + bare + " {\n"));
+            }
+        }
+        check.is("constants, constructor and methods of the face", lines, 13 + 1 + 43);
+    }
+
+    private void examplesAreAnswered(String text) throws ReflectiveOperationException {
+        int begin = text.indexOf("Examples: each one begins with a new object");
+        int end = text.indexOf("The constants:");
+        check.holds("there are examples", begin >= 0 && end > begin);
+        int calls = 0;
+        for (String example : text.substring(Math.max(begin, 0), Math.max(end, 0)).split("\n- ")) {
+            ConstrainedCoder coder = new ConstrainedCoder();
+            Matcher call = EXAMPLE.matcher(example);
+            while (call.find()) {
+                calls++;
+                check.is("\"" + call.group() + "\" of the examples", Calls.answer(coder, call.group(1), call.group(2)),
+                    Long.parseLong(call.group(3)));
+            }
+        }
+        check.is("calls of the examples", calls, 27);
     }
 
     private void quotesStandInTheDocument() {

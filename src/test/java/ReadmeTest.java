@@ -50,25 +50,10 @@ final class ReadmeTest {
             check.holds("a call with its answer: " + line, read);
             if (read) {
                 long due = call.group(3).equals("NONE") ? ConstrainedCoder.NONE : Long.parseLong(call.group(3));
-                check.is(line, answer(coder, call.group(1), call.group(2)), due);
+                check.is(line, Calls.answer(coder, call.group(1), call.group(2)), due);
                 calls++;
             }
         }
         return calls;
-    }
-
-    private static long answer(ConstrainedCoder coder, String name, String list) throws ReflectiveOperationException {
-        String[] texts = list.isEmpty() ? new String[0] : list.split(", ");
-        for (Method method : ConstrainedCoder.class.getDeclaredMethods()) {
-            Class<?>[] types = method.getParameterTypes();
-            if (method.getName().equals(name) && types.length == texts.length) {
-                Object[] values = new Object[texts.length];
-                for (int i = 0; i < texts.length; i++) {
-                    values[i] = types[i] == int.class ? (Object) Integer.valueOf(texts[i]) : Long.valueOf(texts[i]);
-                }
-                return ((Number) method.invoke(coder, values)).longValue();
-            }
-        }
-        throw new NoSuchMethodException(name + "(" + list + ")");
     }
 }
